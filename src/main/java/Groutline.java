@@ -23,6 +23,7 @@ public final class Groutline {
     private final Cuts cuts = new Cuts();
     private final Stack stack = new Stack();
     private final Work work = new Work();
+    private final Frame frame = new Frame();
 
     public Groutline() {
         renew();
@@ -207,9 +208,9 @@ public final class Groutline {
         if (bars.areAt(column, row)) {
             return false;
         }
-        int end = layout.endOfPiece(column, row);
-        for (int r = layout.topOfPiece(column, row); r <= row; r++) {
-            for (int c = layout.startOfPiece(column, row); c < end; c++) {
+        layout.frame(column, row, frame);
+        for (int r = frame.top; r <= row; r++) {
+            for (int c = frame.left; c < frame.right; c++) {
                 boolean ahead = r < row || c < column;
                 if (ahead && !bars.areAt(c, r)) {
                     return false;
@@ -290,33 +291,31 @@ public final class Groutline {
             return border + courseOfRow(row);
         }
 
-        /** The first row of what a cell's piece can have. */
-        int topOfPiece(int column, int row) {
-            return isBorder(column, row) ? row : border + courseOfRow(row) * high;
-        }
-
-        /** The row behind the last one of what a cell's piece can have. */
-        int bottomOfPiece(int column, int row) {
-            int under = topOfPiece(column, row) + high;
-            return isBorder(column, row) ? row + 1 : Math.min(under, lowerBorder());
-        }
-
-        /** The first column of what a cell's piece can have. */
-        int startOfPiece(int column, int row) {
-            return isBorder(column, row) ? column : Math.max(startOfTile(column, row), border);
-        }
-
-        /** The column behind the last one of what a cell's piece can have. */
-        int endOfPiece(int column, int row) {
-            int behind = startOfTile(column, row) + wide;
-            return isBorder(column, row) ? column + 1 : Math.min(behind, rightBorder());
-        }
-
-        /** For a cell within the border; it may lie in the border, or left of the floor. */
-        private int startOfTile(int column, int row) {
-            boolean shifted = pattern == BOND && (courseOfRow(row) & 1) == 1;
+        /** Frames what can be of a cell's piece: the cell itself in the border, within it its tile. */
+        void frame(int column, int row, Frame frame) {
+            if (isBorder(column, row)) {
+                frame.set(column, column + 1, row, row + 1);
+                return;
+            }
+            int course = courseOfRow(row);
+            boolean shifted = pattern == BOND && (course & 1) == 1;
             int first = border - (shifted ? wide >> 1 : 0);
-            return first + timesIn(wide, column - first) * wide;
+            int left = first + timesIn(wide, column - first) * wide;
+            int top = border + course * high;
+            frame.set(Math.max(left, border), Math.min(left + wide, rightBorder()),
+                    top, Math.min(top + high, lowerBorder()));
+        }
+    }
+
+    /** A rectangle of cells, from its left column and its top row to those behind its last ones. */
+    private static final class Frame {
+        int left = 0, right = 0, top = 0, bottom = 0;
+
+        void set(int newLeft, int newRight, int newTop, int newBottom) {
+            left = newLeft;
+            right = newRight;
+            top = newTop;
+            bottom = newBottom;
         }
     }
 
@@ -372,6 +371,7 @@ public final class Groutline {
         final int[] sizes = new int[CELLS];
         final int[] boxWides = new int[CELLS];
         final int[] boxHighs = new int[CELLS];
+        private final Frame frame = new Frame();
 
         boolean has(int piece) {
             return piece >= 0 && piece < count && piece < CELLS;
@@ -398,7 +398,8 @@ public final class Groutline {
             }
             columns[piece] = column;
             rows[piece] = row;
-            measure(layout, bars, piece);
+            layout.frame(column, row, frame);
+            measure(bars, piece);
             if (layout.isBorder(column, row)) {
                 kinds[piece] = EDGE;
             } else {
@@ -406,28 +407,26 @@ public final class Groutline {
             }
         }
 
-        /** Marks the cells of a piece, counts them, and finds the least rectangle that has them all. */
-        private void measure(Layout layout, Bars bars, int piece) {
+        /** Marks the cells of the piece in the frame, counts them, and finds the least rectangle that has them all. */
+        private void measure(Bars bars, int piece) {
             if (!has(piece)) {
                 return;
             }
-            int column = columns[piece], row = rows[piece];
-            int bottom = layout.bottomOfPiece(column, row), end = layout.endOfPiece(column, row);
-            int size = 0, leftmost = column, rightmost = column, lowest = row;
-            for (int r = row; r < bottom; r++) {
-                for (int c = layout.startOfPiece(column, row); c < end; c++) {
-                    if (isCell(c, r) && !bars.areAt(c, r)) {
-                        ofCells[cellAt(c, r)] = piece;
+            int size = 0, leftmost = frame.right, rightmost = frame.left, lowest = frame.top;
+            for (int row = rows[piece]; row < frame.bottom; row++) {
+                for (int column = frame.left; column < frame.right; column++) {
+                    if (isCell(column, row) && !bars.areAt(column, row)) {
+                        ofCells[cellAt(column, row)] = piece;
                         size++;
-                        leftmost = Math.min(leftmost, c);
-                        rightmost = Math.max(rightmost, c);
-                        lowest = r;
+                        leftmost = Math.min(leftmost, column);
+                        rightmost = Math.max(rightmost, column);
+                        lowest = row;
                     }
                 }
             }
             sizes[piece] = size;
             boxWides[piece] = rightmost - leftmost + 1;
-            boxHighs[piece] = lowest - row + 1;
+            boxHighs[piece] = lowest - rows[piece] + 1;
         }
     }
 
