@@ -2,10 +2,8 @@
 public final class CratesTest {
     public static void main(String[] args) {
         promise10Crate();
-        promise10Refuses();
         promise11Fetch();
         promise11KeepsTheOrder();
-        promise11Refuses();
         promise12Moves();
         Due.end();
     }
@@ -20,24 +18,6 @@ public final class CratesTest {
         Groutline y = new Groutline();
         y.lay(0);
         Due.is("a crate with a strip laid", y.crate(0, 100), 1);
-    }
-
-    private static void promise10Refuses() {
-        Groutline x = new Groutline();
-        int[][] wrong = {{-1, 1}, {10, 1}, {0, 0}, {0, 101}, {0, -1}, {Integer.MAX_VALUE, 1}, {0, Integer.MIN_VALUE}};
-        for (int[] a : wrong) {
-            Due.refused(x, "crate" + java.util.Arrays.toString(a), Due.ARGUMENT, () -> x.crate(a[0], a[1]));
-        }
-        Due.is("no crate came of that", x.crate(3, 7), 1);
-        for (int n = 2; n <= 20; n++) {
-            x.crate(4, n);
-        }
-        Due.refused(x, "crate number 21", Due.STATE, () -> x.crate(3, 8));
-        Due.refused(x, "crate(10, 1) with 20", Due.ARGUMENT, () -> x.crate(10, 1));
-        Due.refused(x, "crate(0, 0) with 20", Due.ARGUMENT, () -> x.crate(0, 0));
-        Due.is("the 20th is still on top", x.fetch(4), 20);
-        Due.is("the first is still there", x.fetch(3), 7);
-        Due.is("and it alone", x.fetch(3), Groutline.NONE);
     }
 
     private static void promise11Fetch() {
@@ -67,15 +47,6 @@ public final class CratesTest {
         Due.is("the last of 3", x.fetch(3), 11);
         Due.is("the one of 4", x.fetch(4), 21);
         Due.is("moves()", x.moves(), 2 * (4 + 0 + 1 + 1 + 0));
-    }
-
-    private static void promise11Refuses() {
-        Groutline x = new Groutline();
-        x.crate(0, 1);
-        for (int floor : new int[] {-1, 10, Integer.MAX_VALUE, Integer.MIN_VALUE}) {
-            Due.refused(x, "fetch(" + floor + ")", Due.ARGUMENT, () -> x.fetch(floor));
-        }
-        Due.is("the crate is still there", x.fetch(0), 1);
     }
 
     private static void promise12Moves() {

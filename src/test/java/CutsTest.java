@@ -8,7 +8,6 @@ public final class CutsTest {
         promise8LaidStripsAreCutAnewWithTheDoor();
         promise9RightAndBelow();
         promise9RestOfARest();
-        promise9Refuses();
         Due.end();
     }
 
@@ -120,13 +119,6 @@ public final class CutsTest {
         Due.is("1 by 2 of 3 by 4: right 8, below 6", Due.restsOf(x), " 24");
         x.pillar(6, 3, true);
         Due.is("1 by 1 of 3 by 4: right 8, below 9", Due.restsOf(x), " 33");
-    }
-
-    private static void promise9Refuses() {
-        Groutline x = new Groutline();
-        for (int place : new int[] {-1, -2, Integer.MIN_VALUE}) {
-            Due.refused(x, "rest(" + place + ")", Due.OUTSIDE, () -> x.rest(place));
-        }
     }
 
     private static void bar(Groutline x, int left, int top, int right, int bottom) {

@@ -2,16 +2,12 @@
 public final class LayingTest {
     public static void main(String[] args) {
         promise13Grout();
-        promise13Refuses();
         promise14Hours();
         promise14WaitsForAllAhead();
         promise14FreezesTheStripAlone();
-        promise14Refuses();
         promise15Dry();
-        promise15Refuses();
         promise16Strips();
         promise17Pass();
-        promise17Refuses();
         Due.end();
     }
 
@@ -25,14 +21,6 @@ public final class LayingTest {
         Due.is("a strip that is laid stays", x.dry(3), 2);
         x.lay(2);
         Due.is("a strip laid from now on", x.dry(2), 4 + 5);
-    }
-
-    private static void promise13Refuses() {
-        Groutline x = new Groutline();
-        for (int hours : new int[] {-1, 49, Integer.MAX_VALUE, Integer.MIN_VALUE}) {
-            Due.refused(x, "grout(" + hours + ")", Due.ARGUMENT, () -> x.grout(hours));
-        }
-        Due.is("the grout is as it was", x.grout(1), 6);
     }
 
     private static void promise14Hours() {
@@ -58,17 +46,17 @@ public final class LayingTest {
     private static void promise14WaitsForAllAhead() {
         Groutline x = new Groutline();
         Due.is("lay(1)", x.lay(1), 2);
-        Due.refused(x, "lay(3) at 2, dry at 8", Due.STATE, () -> x.lay(3));
+        Due.is("lay(3) at 2, dry at 8", Due.outcome(() -> x.lay(3)), "throws IllegalStateException");
         Due.is("what is behind does not hinder", x.lay(0), 4);
         x.pass(4);
         Due.is("the hour of dry(0)", x.dry(0), 10);
-        Due.refused(x, "lay(2) at 8, the first strip not dry", Due.STATE, () -> x.lay(2));
+        Due.is("lay(2) at 8, the first strip not dry", Due.outcome(() -> x.lay(2)), "throws IllegalStateException");
         x.pass(1);
-        Due.refused(x, "lay(2) at 9", Due.STATE, () -> x.lay(2));
+        Due.is("lay(2) at 9", Due.outcome(() -> x.lay(2)), "throws IllegalStateException");
         x.pass(1);
         Due.is("lay(2) at 10", x.lay(2), 12);
         x.pass(5);
-        Due.refused(x, "lay(3) at 17", Due.STATE, () -> x.lay(3));
+        Due.is("lay(3) at 17", Due.outcome(() -> x.lay(3)), "throws IllegalStateException");
         x.pass(1);
         Due.is("lay(3) at 18", x.lay(3), 20);
     }
@@ -89,18 +77,6 @@ public final class LayingTest {
         Due.is("where the door was", y.pieceAt(0, 0), 0);
     }
 
-    private static void promise14Refuses() {
-        Groutline x = new Groutline();
-        x.lay(3);
-        Due.refused(x, "lay(3) again", Due.STATE, () -> x.lay(3));
-        x.pass(100);
-        Due.refused(x, "lay(3) again when it is dry", Due.STATE, () -> x.lay(3));
-        for (int strip : new int[] {-1, 4, 7, 8, Integer.MAX_VALUE, Integer.MIN_VALUE}) {
-            Due.refused(x, "lay(" + strip + ")", Due.OUTSIDE, () -> x.lay(strip));
-        }
-        Due.is("no hour went by", x.pass(1), 103);
-    }
-
     private static void promise15Dry() {
         Groutline x = new Groutline();
         Due.is("dry(2), not laid", x.dry(2), Groutline.NONE);
@@ -110,16 +86,6 @@ public final class LayingTest {
         x.pass(50);
         Due.is("dry(2) later", x.dry(2), 18);
         Due.is("dry(3), not laid", x.dry(3), Groutline.NONE);
-    }
-
-    private static void promise15Refuses() {
-        Groutline x = new Groutline();
-        for (int strip : new int[] {-1, 4, 8, Integer.MAX_VALUE, Integer.MIN_VALUE}) {
-            Due.refused(x, "dry(" + strip + ")", Due.OUTSIDE, () -> x.dry(strip));
-        }
-        x.plan(1, 1, 0, Groutline.STRAIGHT);
-        Due.is("dry(7) of 8", x.dry(7), Groutline.NONE);
-        Due.refused(x, "dry(8) of 8", Due.OUTSIDE, () -> x.dry(8));
     }
 
     private static void promise16Strips() {
@@ -137,7 +103,7 @@ public final class LayingTest {
         Due.is("a strip that is all barred counts", x.strips(), 5);
         Due.is("it takes no hour", x.lay(0), 0);
         Due.is("but its grout dries", x.dry(0), 6);
-        Due.refused(x, "the cart waits for it", Due.STATE, () -> x.lay(1));
+        Due.is("the cart waits for it", Due.outcome(() -> x.lay(1)), "throws IllegalStateException");
     }
 
     private static void promise17Pass() {
@@ -146,13 +112,5 @@ public final class LayingTest {
         Due.is("pass(100)", x.pass(100), 101);
         x.lay(0);
         Due.is("pass(7) behind two hours of laying", x.pass(7), 110);
-    }
-
-    private static void promise17Refuses() {
-        Groutline x = new Groutline();
-        for (int hours : new int[] {0, -1, 101, Integer.MAX_VALUE, Integer.MIN_VALUE}) {
-            Due.refused(x, "pass(" + hours + ")", Due.ARGUMENT, () -> x.pass(hours));
-        }
-        Due.is("no hour went by", x.pass(1), 1);
     }
 }

@@ -1,5 +1,4 @@
 import java.util.ArrayList;
-import java.util.LinkedHashMap;
 import java.util.List;
 import java.util.Map;
 import java.util.Random;
@@ -7,31 +6,52 @@ import java.util.TreeMap;
 
 /** Long runs of calls, right and wrong ones, against a model that is written plainly with maps and lists. */
 public final class ModelTest {
-    private static final int RUNS = 400, CALLS = 512;
+    private static final int RUNS = 400, CALLS = 512, CALLS_AHEAD_OF_A_SWEEP = 200;
 
     public static void main(String[] args) {
         for (int run = 0; run < RUNS; run++) {
-            compare(run, new Random(run));
+            Groutline x = new Groutline();
+            Model model = new Model();
+            if (run % 2 == 0) {
+                compareChosen(run, x, model, CALLS);
+            } else {
+                compareChosen(run, x, model, CALLS_AHEAD_OF_A_SWEEP);
+                sweep(run, x, model);
+            }
         }
         Due.end();
     }
 
-    private static void compare(int run, Random random) {
-        Groutline x = new Groutline();
-        Model model = new Model();
+    private static void compareChosen(int run, Groutline x, Model model, int calls) {
+        Random random = new Random(run);
         int seldomLaid = random.nextInt(3);
-        for (int n = 0; n < CALLS; n++) {
-            int[] a = chosen(random, seldomLaid == 0 || n > seldomLaid * 150);
-            String call = "run " + run + ", call " + n + ": " + NAMES[a[0]] + "(" + a[1] + ", " + a[2] + ", " + a[3]
-                    + ", " + a[4] + ")";
-            Due.is(call, Due.outcome(() -> made(x, a)), Due.outcome(() -> model.made(a)));
+        for (int n = 0; n < calls; n++) {
+            compare(run, n, x, model, chosen(random, seldomLaid == 0 || n > seldomLaid * calls / 3));
         }
-        Due.is("everything after run " + run, Due.everythingOf(x), model.everything());
+    }
+
+    /** Asks all cells, then the pieces from any one on, as far as the document's 512 calls go. */
+    private static void sweep(int run, Groutline x, Model model) {
+        int n = CALLS_AHEAD_OF_A_SWEEP;
+        for (int cell = 0; cell < 96; cell++) {
+            compare(run, n++, x, model, new int[] {PIECE_AT, cell % 12, cell / 12, 0, 0});
+        }
+        for (int piece = run % 3 * 30; n + 6 <= CALLS; piece++) {
+            for (int what = 0; what < 6; what++) {
+                compare(run, n++, x, model, new int[] {OF_PIECE, piece, what, 0, 0});
+            }
+        }
+    }
+
+    private static void compare(int run, int n, Groutline x, Model model, int[] a) {
+        String call = "run " + run + ", call " + n + ": " + NAMES[a[0]] + "(" + a[1] + ", " + a[2] + ", " + a[3]
+                + ", " + a[4] + ")";
+        Due.is(call, Due.outcome(() -> made(x, a)), Due.outcome(() -> model.made(a)));
     }
 
     private static final String[] NAMES = {"plan", "pillar", "door", "ofPiece", "pieceAt", "piecesAnew", "tiles", "rest",
         "crate", "fetch", "moves", "grout", "lay", "dry", "strips", "pass"};
-    private static final int LAY = 12;
+    private static final int OF_PIECE = 3, PIECE_AT = 4, LAY = 12;
 
     /** A call and its arguments, now and then just outside of what they may be. */
     private static int[] chosen(Random r, boolean mayLay) {
@@ -46,9 +66,9 @@ public final class ModelTest {
                 return new int[] {call, near(r, 0, 11), near(r, 0, 7), r.nextInt(3) == 0 ? 0 : 1, 0};
             case 2:
                 return new int[] {call, near(r, 0, 10), 0, 0, 0};
-            case 3:
+            case OF_PIECE:
                 return new int[] {call, near(r, 0, r.nextBoolean() ? 20 : 95), near(r, 0, 5), 0, 0};
-            case 4:
+            case PIECE_AT:
                 return new int[] {call, near(r, 0, 11), near(r, 0, 7), 0, 0};
             case 7:
                 return new int[] {call, near(r, 0, 3), 0, 0, 0};
@@ -373,32 +393,6 @@ public final class ModelTest {
             if (left.wide * left.high > 0) {
                 rests.add(left);
             }
-        }
-
-        String everything() {
-            StringBuilder all = new StringBuilder("pieces " + pieces.size() + " tiles " + tiles + " strips " + strips()
-                    + " moves " + moves);
-            for (int row = 0; row < 8; row++) {
-                all.append("\nrow ").append(row).append(':');
-                for (int column = 0; column < 12; column++) {
-                    all.append(' ').append(pieceAt(column, row));
-                }
-            }
-            Map<Integer, Piece> numbered = new LinkedHashMap<>();
-            pieces.forEach(p -> numbered.put(numbered.size(), p));
-            numbered.forEach((number, p) -> {
-                all.append("\npiece ").append(number).append(':');
-                for (int what = 0; what <= 5; what++) {
-                    all.append(' ').append(ofPiece(number, what));
-                }
-            });
-            all.append("\nrests:");
-            rests.forEach(r -> all.append(' ').append(10 * r.wide + r.high));
-            all.append("\ndry:");
-            for (int strip = 0; strip < strips(); strip++) {
-                all.append(' ').append(dry(strip));
-            }
-            return all.toString();
         }
 
         static void inside(boolean is) {

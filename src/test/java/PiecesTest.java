@@ -4,11 +4,9 @@ public final class PiecesTest {
         promise5Kinds();
         promise5Strips();
         promise5Sources();
-        promise5Refuses();
         promise6Numbers();
         promise6Bond();
         promise6OnePieceOnBothSidesOfAPillar();
-        promise6Refuses();
         promise7Anew();
         Due.end();
     }
@@ -56,19 +54,6 @@ public final class PiecesTest {
         Due.is("a cut of 2 from the oldest rest of 2", Due.pieceOf(x, x.pieceAt(8, 6)), " 1 8 6 2 6 0");
     }
 
-    private static void promise5Refuses() {
-        Groutline x = new Groutline();
-        for (int piece : new int[] {-1, 24, 96, Integer.MAX_VALUE, Integer.MIN_VALUE}) {
-            Due.refused(x, "ofPiece(" + piece + ", 0)", Due.OUTSIDE, () -> x.ofPiece(piece, 0));
-            Due.refused(x, "ofPiece(" + piece + ", 6)", Due.OUTSIDE, () -> x.ofPiece(piece, 6));
-        }
-        for (int what : new int[] {-1, 6, Integer.MAX_VALUE, Integer.MIN_VALUE}) {
-            Due.refused(x, "ofPiece(23, " + what + ")", Due.ARGUMENT, () -> x.ofPiece(23, what));
-        }
-        x.plan(4, 4, 0, Groutline.STRAIGHT);
-        Due.refused(x, "ofPiece(6, 0) of 6 pieces", Due.OUTSIDE, () -> x.ofPiece(6, 0));
-    }
-
     private static void promise6Numbers() {
         Groutline x = new Groutline();
         x.pillar(2, 0, true);
@@ -107,15 +92,6 @@ public final class PiecesTest {
         Due.is("left of the pillar", x.pieceAt(3, 5), x.pieceAt(5, 5));
         Due.is("one piece of two cells", Due.pieceOf(x, x.pieceAt(3, 5)), " 1 3 5 2 5 -1");
         Due.is("its rectangle has all of the tile, so no rest but the door's", Due.restsOf(x), " 21");
-    }
-
-    private static void promise6Refuses() {
-        Groutline x = new Groutline();
-        int[][] wrong = {{-1, 0}, {12, 0}, {0, -1}, {0, 8}, {12, 8}, {Integer.MIN_VALUE, 0}, {0, Integer.MAX_VALUE}};
-        for (int[] a : wrong) {
-            Due.refused(x, "pieceAt" + java.util.Arrays.toString(a), Due.OUTSIDE, () -> x.pieceAt(a[0], a[1]));
-        }
-        Due.is("pieceAt(11, 7)", x.pieceAt(11, 7), 23);
     }
 
     private static void promise7Anew() {

