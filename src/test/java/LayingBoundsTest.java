@@ -129,6 +129,11 @@ public final class LayingBoundsTest {
             Floors.bar(x, count, 7, 11, 7);
             Due.is("hours for " + count + " pieces", x.lay(7), hours[count]);
         }
+        for (int count = 0; count <= 10; count++) {
+            Groutline x = Floors.planned(1, 1, 0, Groutline.STRAIGHT);
+            Floors.bar(x, 2 + count, 0, 11, 0);
+            Due.is("hours for " + count + " pieces beside the door", x.lay(0), hours[count]);
+        }
         int[] moreHours = {4, 4, 4, 4, 5, 5, 5, 5, 6, 6, 6, 6};
         for (int count = 13; count <= 24; count++) {
             Due.is("hours for " + count + " pieces, of 24 at most", courseOf(count).lay(2), moreHours[count - 13]);
